@@ -1,0 +1,129 @@
+/** Promises 38 and 39: old problems, and what is told of all. */
+public final class ProblemsTest {
+    private static final long LOST = -1000000000000000L;
+    private static final int MOST = 1000000;
+    private static final Due due = new Due("ProblemsTest");
+    private static final RodBoard board = new RodBoard();
+
+    public static void main(String[] args) {
+        outside();
+        field();
+        shared();
+        square();
+        birdsAndBeasts();
+        leftByThreeFiveSeven();
+        boughtTogether();
+        told();
+        due.end();
+    }
+
+    private static void answers(long first, long second, int kind, int... told) {
+        int[] v = java.util.Arrays.copyOf(told, 4);
+        String call = "problem " + kind + " " + java.util.Arrays.toString(told);
+        due.is(call, board.problem(kind, v[0], v[1], v[2], v[3], 0), first);
+        due.is(call + " second", board.problem(kind, v[0], v[1], v[2], v[3], 1), second);
+    }
+
+    private static void none(int kind, int... told) {
+        answers(LOST - 5, LOST - 5, kind, told);
+    }
+
+    private static void isOutside(int kind, int... told) {
+        answers(LOST - 2, LOST - 2, kind, told);
+    }
+
+    private static void outside() {
+        isOutside(-1, 1, 1, 1, 1);
+        isOutside(6, 1, 1, 1, 1);
+        for (int kind = 0; kind < 6; kind++) {
+            for (int i = 0; i < 4; i++) {
+                int[] told = {1, 1, 1, 1};
+                told[i] = -1;
+                isOutside(kind, told);
+                told[i] = MOST + 1;
+                isOutside(kind, told);
+                told[i] = Integer.MIN_VALUE;
+                isOutside(kind, told);
+            }
+            due.is("part 2", board.problem(kind, 1, 1, 3, 0, 2), LOST - 2);
+            due.is("part -1", board.problem(kind, 1, 1, 3, 0, -1), LOST - 2);
+        }
+        due.is("outside ahead of no answer", board.problem(1, 1, 0, 0, -1, 0), LOST - 2);
+    }
+
+    private static void field() {
+        answers(240, 0, 0, 15, 16);
+        answers(0, 0, 0, 0, 16);
+        answers(1000000000000L, 0, 0, MOST, MOST);
+    }
+
+    private static void shared() {
+        answers(14, 2, 1, 100, 7);
+        answers(0, 5, 1, 5, 6);
+        answers(MOST, 0, 1, MOST, 1);
+        answers(0, 0, 1, 0, 3);
+        none(1, 5, 0);
+    }
+
+    private static void square() {
+        answers(235, 0, 2, 55225);
+        answers(234, 468, 2, 55224);
+        answers(0, 0, 2, 0);
+        answers(1, 0, 2, 1);
+        answers(1, 2, 2, 3);
+        answers(1000, 0, 2, MOST);
+    }
+
+    private static void birdsAndBeasts() {
+        answers(23, 12, 3, 35, 94, 4);
+        answers(35, 0, 3, 35, 70, 4);
+        answers(0, 35, 3, 35, 140, 4);
+        answers(1, 2, 3, 3, 14, 6);
+        answers(0, 0, 3, 0, 0, 3);
+        none(3, 35, 94, 2);
+        none(3, 35, 70, 2);
+        none(3, 35, 94, 0);
+        none(3, 35, 95, 4);
+        none(3, 35, 68, 4);
+        none(3, 35, 142, 4);
+        answers(0, 1, 3, 1, MOST, MOST);
+    }
+
+    private static void leftByThreeFiveSeven() {
+        answers(23, 0, 4, 2, 3, 2);
+        answers(0, 0, 4, 0, 0, 0);
+        answers(104, 0, 4, 2, 4, 6);
+        none(4, 3, 0, 0);
+        none(4, 0, 5, 0);
+        none(4, 0, 0, 7);
+    }
+
+    private static void boughtTogether() {
+        answers(7, 53, 5, 8, 3, 7, 4);
+        answers(0, 0, 5, 8, 0, 7, 0);
+        answers(4, 12, 5, 3, 0, 0, 12);
+        none(5, 8, 3, 5, 4);
+        none(5, 7, 1, 7, 1);
+        none(5, 7, 0, 7, 0);
+        none(5, 6, 1, 7, 1);
+        answers(2 * MOST, (long) MOST * (2L * MOST - 1), 5, MOST, MOST, MOST - 1, MOST);
+    }
+
+    private static void told() {
+        RodBoard all = new RodBoard();
+        all.lay(0, 305);
+        all.lay(7, -41);
+        all.strip(0);
+        all.group(1, 1);
+        all.add(0, 7);
+        all.copy();
+        all.gap(1, 1);
+        all.gap(2, 7);
+        all.unknowns(3, 2);
+        all.count(9, 1);
+        int[] told = {3, 2, 1, 3, 2, 1, 2, 2 + 6 + 4 + 5};
+        for (int what = 0; what < told.length; what++) due.is("told " + what, all.told(what), told[what]);
+        due.is("what 8", all.told(8), -2);
+        due.is("what -1", all.told(-1), -2);
+    }
+}
