@@ -130,6 +130,13 @@ public final class CopiesTest {
         due.is("no row", board.gap(0, -1), -1);
         board.write(1, 2, 0);
         due.is("written again", board.told(6), 0);
+        for (int row = 0; row < 8; row++) {
+            board.gap(2, row);
+            due.is("dark by row " + row, board.right(1), 2);
+            due.is("and behind it", board.right(2), 2);
+            due.is("told", board.told(6), 1);
+            board.copy();
+        }
     }
 
     private static void read() {
@@ -202,6 +209,9 @@ public final class CopiesTest {
         writeBoth(board, 1, -999999, -999996);
         writeBoth(board, 0, 0, 5999985);
         due.is("powers just below BEYOND", board.right(0), 1);
+        writeBoth(board, 1, -1000000, -999997);
+        writeBoth(board, 0, 0, 5999991);
+        due.is("the old power is BEYOND", board.right(0), 0);
         writeBoth(board, 1, -1000001, -999998);
         writeBoth(board, 0, 0, 5999997);
         due.is("the old power is more", board.right(0), 0);

@@ -102,7 +102,9 @@ public final class ProblemsTest {
         answers(7, 53, 5, 8, 3, 7, 4);
         answers(0, 0, 5, 8, 0, 7, 0);
         answers(4, 12, 5, 3, 0, 0, 12);
+        answers(1, 1, 5, 3, 2, 0, 1);
         none(5, 8, 3, 5, 4);
+        none(5, 3, 4, 0, 1);
         none(5, 7, 1, 7, 1);
         none(5, 7, 0, 7, 0);
         none(5, 6, 1, 7, 1);

@@ -57,7 +57,13 @@ public final class UnknownsTest {
         due.is("m 6", board.unknowns(1, 6), -2);
         due.is("refused changed nothing", board.set(4, 4, 8), 9);
         due.is("anew", board.unknowns(4, 5), 1);
-        due.is("all 0", board.set(4, 4, 0), 0);
+        for (int column = 0; column < 5; column++) {
+            for (int k = 0; k <= 4; k++) due.is("was", board.set(column, k, 7), 0);
+        }
+        board.unknowns(4, 5);
+        for (int column = 0; column < 5; column++) {
+            for (int k = 0; k <= 4; k++) due.is("all 0", board.set(column, k, 0), 0);
+        }
     }
 
     private static void set() {

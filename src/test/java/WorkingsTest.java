@@ -109,6 +109,7 @@ public final class WorkingsTest {
         due.is("nothing times b", board.times(0, 1, 2), 1);
         due.is("c is emptied", board.number(2), 0);
         due.is("nothing at all", board.times(0, 1, 2), 0);
+        due.is("a times nothing", board.times(1, 0, 2), 0);
 
         board = with(1111111, 111111, 8);
         due.is("the longest", board.times(0, 1, 2), 43);
