@@ -40,12 +40,12 @@ public final class RandomRunsTest {
     private int themed(int theme) {
         int[][] chapters = {
             {}, {0, 1, 2, 3, 4, 4, 4, 5, 6, 7, 8, 8}, {0, 0, 9, 9, 10, 10, 11, 11, 12, 12, 13, 14, 14, 15, 15},
-            {0, 0, 9, 10, 11, 12, 16, 39, 39, 39, 39, 17, 17, 18, 19, 20, 20, 21, 22, 22, 22, 23},
-            {24, 25, 25, 25, 40, 26, 27, 28, 28, 29, 29, 30}, {31, 31, 31, 32, 33, 33, 34, 35, 35},
+            {41, 16, 39, 39, 39, 39, 39, 39, 39, 39, 17, 18, 18, 19, 20, 20, 20, 21, 21, 22, 22, 23, 23, 42},
+            {24, 40, 40, 40, 25, 26, 27, 28, 28, 29, 29, 29, 29, 30}, {31, 31, 31, 32, 33, 33, 34, 35, 35},
             {36, 36, 36, 37}
         };
         int[] chapter = chapters[theme];
-        return random.nextInt(20) == 0 ? random.nextInt(39) : chapter[random.nextInt(chapter.length)];
+        return random.nextInt(theme == 3 ? 100 : 20) == 0 ? random.nextInt(39) : chapter[random.nextInt(chapter.length)];
     }
 
     private void same(String call, long got, long want) {
@@ -210,8 +210,41 @@ public final class RandomRunsTest {
             }
             case 38: for (int what = 0; what < 8; what++) same("told(" + what + ")", board.told(what), model.told(what)); break;
             case 39: faultOne(); break;
+            case 41: copyOfWorking(); break;
+            case 42: gapsInARow(); break;
             default: setAll(); break;
         }
+    }
+
+    /** A working that goes, on rows of few places, and its copy. */
+    private void copyOfWorking() {
+        int a = random.nextInt(8);
+        int b = (a + 1 + random.nextInt(7)) % 8;
+        int c = 0;
+        while (c == a || c == b) c++;
+        for (int row : new int[] {a, b}) {
+            long v = Math.abs(numeral()) % of(1000, 1000000);
+            same("lay(" + row + "," + v + ")", board.lay(row, v), model.lay(row, v));
+        }
+        int n = of(2, 3);
+        switch (random.nextInt(4)) {
+            case 0: same("add(" + a + "," + b + ")", board.add(a, b), model.add(a, b)); break;
+            case 1: same("times(" + a + "," + b + "," + c + ")", board.times(a, b, c), model.times(a, b, c)); break;
+            case 2: same("part(" + a + "," + b + "," + c + ")", board.part(a, b, c), model.part(a, b, c)); break;
+            default: same("root(" + a + "," + b + "," + n + ")", board.root(a, b, n), model.root(a, b, n)); break;
+        }
+        same("copy()", board.copy(), model.copy());
+    }
+
+    /** Gaps in some boards one behind the other, and what is filled of them. */
+    private void gapsInARow() {
+        int last = model.boards() - 1;
+        for (int i = random.nextInt(last + 2); i <= last && random.nextInt(4) != 0; i++) {
+            int row = random.nextInt(8);
+            same("gap(" + i + "," + row + ")", board.gap(i, row), model.gap(i, row));
+        }
+        same("right(" + last + " less 1)", board.right(last - 1), model.right(last - 1));
+        same("fill()", board.fill(), model.fill());
     }
 
     /** A cell of the copy with one other digit, or another sign, or what the step would lead to: likely mends. */
@@ -229,7 +262,7 @@ public final class RandomRunsTest {
         long ten = 1;
         for (int place = random.nextInt(12); place > 0; place--) ten *= 10;
         long v = random.nextInt(6) == 0 ? -was : Math.abs(was) / ten % 10 == 9 ? was - ten : was + ten;
-        if (random.nextInt(6) == 0) v = model.board(i, row);
+        if (random.nextInt(3) == 0) v = model.board(i, row);
         same("write(" + i + "," + row + "," + v + ")", board.write(i, row, v), model.write(i, row, v));
         if (random.nextInt(3) == 0) same("mend(-1)", board.mend(-1), model.mend(-1));
         if (random.nextInt(3) == 0) same("mend(0)", board.mend(0), model.mend(0));
