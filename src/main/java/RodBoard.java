@@ -580,7 +580,7 @@ public final class RodBoard {
             return old == LOST || now == LOST ? LOST : now - old;
         }
 
-        /** Whether a row's number decides what the step leaves in another row than itself. */
+        /** Whether the row's number decides what the step takes from its first row. */
         boolean actsOnFirst(int step, int row) {
             int kind = noted(step, KIND);
             boolean takesAway = kind == PARTING || kind == SQUARE_ROOT || kind == CUBE_ROOT;
