@@ -250,9 +250,9 @@ public final class RodBoard {
 
     public long joined(int what) {
         if (what < 0 || what > 1) return LOST + OUTSIDE;
-        // A number that all go into is always there; only one that leaves all so may be missing.
-        if (what == 1) return counts.allGoInto();
-        return counts.firstClash() == NONE ? counts.leastLeavingAll() : LOST + NO;
+        // Both numbers are what the counts come to as one: with a clash there is neither.
+        if (counts.firstClash() != NONE) return LOST + NO;
+        return what == 0 ? counts.leastLeavingAll() : counts.allGoInto();
     }
 
     public int clash() {

@@ -7,6 +7,8 @@ public final class CountsTest {
         count();
         drop();
         joined();
+        joinedWithClash();
+        joinedOutside();
         clash();
         seek();
         seekAll();
@@ -63,11 +65,38 @@ public final class CountsTest {
         board = with(1000, 999, 999, 998, 997, 996, 991, 990, 983, 982, 977, 976);
         due.is("the greatest", board.joined(1), 1000L * 999 * 997 * 991 * 983 * 977);
         due.is("one less", board.joined(0), 1000L * 999 * 997 * 991 * 983 * 977 - 1);
-        board = with(4, 1, 6, 2);
-        due.is("there is none", board.joined(0), LOST - 5);
-        due.is("but what both go into", board.joined(1), 12);
-        due.is("what 2", board.joined(2), LOST - 2);
-        due.is("what -1", board.joined(-1), LOST - 2);
+    }
+
+    /** Counts that can't be together have neither number. */
+    private static void joinedWithClash() {
+        noneJoined("with 2 in both", with(4, 1, 6, 2));
+        noneJoined("the same by", with(3, 0, 3, 1));
+        noneJoined("one goes into the other", with(8, 7, 4, 2));
+        noneJoined("with one between", with(4, 1, 9, 0, 6, 5, 8, 6));
+        noneJoined("the last of six", with(1000, 999, 999, 998, 997, 996, 991, 990, 983, 982, 2, 0));
+        RodBoard board = with(3, 0, 5, 0);
+        due.is("ahead of the clash", board.joined(1), 15);
+        board.count(5, 1);
+        noneJoined("with the clash", board);
+        due.is("the outside one is no count", board.count(5, 5), -2);
+        noneJoined("still with the clash", board);
+        board.drop();
+        due.is("without counts again", board.joined(0), 0);
+        due.is("without counts again", board.joined(1), 1);
+    }
+
+    private static void noneJoined(String counts, RodBoard board) {
+        due.is(counts + ", least", board.joined(0), LOST - 5);
+        due.is(counts + ", what all go into", board.joined(1), LOST - 5);
+    }
+
+    /** OUTSIDE is told ahead of NO. */
+    private static void joinedOutside() {
+        for (RodBoard board : new RodBoard[] {new RodBoard(), with(3, 2, 5, 3), with(4, 1, 6, 2)}) {
+            due.is("what 2", board.joined(2), LOST - 2);
+            due.is("what -1", board.joined(-1), LOST - 2);
+            due.is("what far off", board.joined(Integer.MIN_VALUE), LOST - 2);
+        }
     }
 
     private static void clash() {

@@ -533,30 +533,29 @@ final class Model {
         return were;
     }
 
-    /** By inverses, where RodBoard goes on by the counts; null if there is no such number. */
+    /** By inverses, where RodBoard goes on by the counts; null if some counts can't be together. */
     private BigInteger[] join() {
         BigInteger least = BigInteger.ZERO;
         BigInteger all = BigInteger.ONE;
-        boolean there = true;
         for (int[] count : counts) {
             BigInteger by = big(count[0]);
             BigInteger common = all.gcd(by);
             BigInteger apart = big(count[1]).subtract(least);
-            there = there && apart.mod(common).signum() == 0;
+            if (apart.mod(common).signum() != 0) return null;
             BigInteger rest = by.divide(common);
-            if (there && !rest.equals(BigInteger.ONE)) {
+            if (!rest.equals(BigInteger.ONE)) {
                 BigInteger times = apart.divide(common).multiply(all.divide(common).modInverse(rest)).mod(rest);
                 least = least.add(all.multiply(times));
             }
             all = all.multiply(rest);
         }
-        return new BigInteger[] {there ? least : null, all};
+        return new BigInteger[] {least, all};
     }
 
     long joined(int what) {
         if (what != 0 && what != 1) return LOST - 2;
-        BigInteger v = join()[what];
-        return v == null ? LOST - 5 : v.longValueExact();
+        BigInteger[] joined = join();
+        return joined == null ? LOST - 5 : joined[what].longValueExact();
     }
 
     int clash() {
