@@ -362,10 +362,9 @@ public final class RodBoard {
 
         /** x times y; LOST, if that is BEYOND in size. Both are less than it. */
         static long product(long x, long y) {
-            if (x == 0 || y == 0) return 0L;
-            long sizeOfX = x < 0 ? -x : x;
-            long sizeOfY = y < 0 ? -y : y;
-            return sizeOfX > (BEYOND - 1) / sizeOfY ? LOST : x * y;
+            long sizeOfY = Math.abs(y);
+            if (sizeOfY == 0) return 0L;
+            return Math.abs(x) > (BEYOND - 1) / sizeOfY ? LOST : x * y;
         }
 
         /** Base to the n (2 or 3); LOST, if that is BEYOND in size. */

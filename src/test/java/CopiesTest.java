@@ -6,17 +6,36 @@ public final class CopiesTest {
 
     public static void main(String[] args) {
         copy();
+        copyOfRefusedWorkings();
         write();
+        writeEachCell();
         gap();
+        gapEverywhere();
         read();
         right();
+        rightInEachRow();
+        rightBesideGaps();
         walkLeadsNowhere();
         blame();
+        blameOfEachStep();
         mend();
+        mendOfEachRow();
+        mendOfEachPlaceAndDigit();
+        mendOfColours();
         mendKeepsWhatWasRight();
+        mendBesideDark();
         mendOfOtherKinds();
+        mendOfTwoFaults();
         fill();
         fillNot();
+        fillOfTheLongest();
+        fillAgreesInEachRow();
+        fillNotOfBoard0();
+        fillAdding();
+        fillTimes();
+        fillParting();
+        fillRoots();
+        fillEmptying();
         due.end();
     }
 
@@ -94,6 +113,17 @@ public final class CopiesTest {
         due.is("root takes it away", board.told(2), 0);
     }
 
+    private static void copyOfRefusedWorkings() {
+        RodBoard board = with(BEYOND - 1, 1, -1);
+        due.is("full", board.add(0, 1), -4);
+        due.is("no boards", board.copy(), -3);
+        due.is("no", board.root(2, 3, 2), -5);
+        due.is("no boards", board.copy(), -3);
+        due.is("no steps", board.add(0, 7), 0);
+        due.is("a copy all the same", board.copy(), 8);
+        due.is("of what is held", board.read(0, 0), BEYOND - 1);
+    }
+
     private static void write() {
         RodBoard board = with(444, 777);
         board.add(0, 1);
@@ -114,6 +144,23 @@ public final class CopiesTest {
         due.is("no row 8", board.write(0, 8, 1), -1);
         due.is("no row -1", board.write(0, -1, 1), -1);
         due.is("unchanged", board.read(3, 7), 1 - BEYOND);
+    }
+
+    private static void writeEachCell() {
+        RodBoard board = addition();
+        for (int i = 0; i < 4; i++) {
+            for (int row = 0; row < 8; row++) {
+                due.is("other", board.write(i, row, -100 * i - row - 5000), 1);
+                due.is("as it is", board.write(i, row, -100 * i - row - 5000), 0);
+            }
+        }
+        for (int i = 0; i < 4; i++) {
+            for (int row = 0; row < 8; row++) due.is("read", board.read(i, row), -100 * i - row - 5000);
+        }
+        due.is("nothing in an empty cell", board.write(0, 7, 0), 1);
+        due.is("again", board.write(0, 7, 0), 0);
+        due.is("the boards stay", board.board(3, 0), 1221);
+        due.is("and the rows", board.number(0), 1221);
     }
 
     private static void gap() {
@@ -137,6 +184,23 @@ public final class CopiesTest {
             due.is("told", board.told(6), 1);
             board.copy();
         }
+    }
+
+    private static void gapEverywhere() {
+        RodBoard board = addition();
+        for (int i = 0; i < 4; i++) {
+            for (int row = 0; row < 8; row++) due.is("a gap", board.gap(i, row), 1);
+        }
+        due.is("all cells", board.told(6), 32);
+        due.is("all dark", board.right(0) + board.right(1) + board.right(2), 6);
+        due.is("no blame", board.blame(), -6);
+        due.is("no mends", board.mend(-1), 0);
+        due.is("nothing is told", board.fill(), 0);
+        due.is("read", board.read(3, 7), LOST - 6);
+        due.is("a cell written", board.write(3, 7, 0), 1);
+        due.is("one less", board.told(6), 31);
+        board.copy();
+        due.is("a new copy has none", board.told(6), 0);
     }
 
     private static void read() {
@@ -188,6 +252,30 @@ public final class CopiesTest {
         due.is("emptied whatever it was", board.right(0), 1);
         board.write(0, 3, -77);
         due.is("but no other row", board.right(0), 0);
+    }
+
+    private static void rightInEachRow() {
+        for (int row = 0; row < 8; row++) {
+            RodBoard board = addition();
+            board.write(1, row, board.read(1, row) + 1);
+            due.is("behind, row " + row, board.right(0), 0);
+            due.is("ahead, row " + row, board.right(1), 0);
+            due.is("neither, row " + row, board.right(2), 1);
+            due.is("blame, row " + row, board.blame(), 1);
+        }
+    }
+
+    private static void rightBesideGaps() {
+        RodBoard board = addition();
+        board.gap(0, 7);
+        due.is("the first", board.right(0), 2);
+        due.is("beside it", board.right(1), 1);
+        board.gap(3, 0);
+        due.is("the last", board.right(2), 2);
+        due.is("beside it", board.right(1), 1);
+        board.write(1, 0, 5);
+        due.is("dark is not wrong", board.right(0), 2);
+        due.is("wrong", board.right(1), 0);
     }
 
     private static void walkLeadsNowhere() {
@@ -248,6 +336,20 @@ public final class CopiesTest {
         due.is("no steps", board.blame(), -6);
     }
 
+    private static void blameOfEachStep() {
+        for (int i = 0; i < 4; i++) {
+            RodBoard board = addition();
+            board.write(i, 7, -1);
+            due.is("fault in board " + i, board.blame(), i == 0 ? 1 : i);
+        }
+        RodBoard board = addition();
+        board.gap(1, 3);
+        board.write(0, 0, 0);
+        due.is("a fault in the dark", board.blame(), -6);
+        due.is("has no mends", board.mend(-1), 0);
+        due.is("none", board.mend(0), -6);
+    }
+
     private static void mend() {
         RodBoard board = with(5, 3);
         due.is("no copy", board.mend(-1), -3);
@@ -279,6 +381,53 @@ public final class CopiesTest {
         mendsAre("the highest place", board, 4110, 104119);
     }
 
+    private static void mendOfEachRow() {
+        for (int row = 0; row < 8; row++) {
+            RodBoard board = addition();
+            int ahead = (int) (board.read(1, row) % 10);
+            board.write(1, row, board.read(1, row) + 1);
+            mendsAre("row " + row, board, 1000 * row + ahead + 1, 100000 + 1000 * row + ahead);
+            board = addition();
+            board.write(3, row, board.read(3, row) + 1);
+            // board 2 was right with board 1
+            mendsAre("last board, row " + row, board, 300000 + 1000 * row + (int) (board.board(3, row) % 10));
+        }
+    }
+
+    private static void mendOfEachPlaceAndDigit() {
+        long ten = 1;
+        for (int place = 0; place < 12; place++, ten *= 10) {
+            RodBoard board = addition();
+            board.write(0, 5, ten);
+            mendsAre("place " + place, board, 5000 + 10 * place);
+        }
+        for (int digit = 1; digit <= 9; digit++) {
+            RodBoard board = addition();
+            board.write(1, 5, digit);
+            mendsAre("digit " + digit, board, 5000 + digit, 105000);
+        }
+        RodBoard board = addition();
+        board.write(0, 5, 1 - BEYOND);
+        for (int i = 1; i < 4; i++) board.write(i, 5, 1 - BEYOND + BEYOND / 10);
+        mendsAre("of the least number", board, 5118);
+    }
+
+    private static void mendOfColours() {
+        RodBoard board = addition();
+        board.write(1, 4, -5);
+        mendsAre("a black digit is taken away", board, 104000);
+        board.write(0, 4, 5);
+        mendsAre("no digit turns the colour", board);
+        board.write(0, 4, -6);
+        mendsAre("black to black", board, 4005, 104006);
+        board.write(0, 4, 0);
+        board.write(1, 4, 5);
+        mendsAre("an empty cell: red", board, 4005, 104000);
+        for (int i = 0; i < 4; i++) board.write(i, 4, -50);
+        board.write(0, 4, 0);
+        mendsAre("an empty cell: not black", board);
+    }
+
     private static void mendKeepsWhatWasRight() {
         RodBoard board = addition();
         board.write(2, 0, 1213);
@@ -297,6 +446,16 @@ public final class CopiesTest {
         board.gap(2, 7);
         board.write(0, 0, 443);
         mendsAre("step behind is dark", board, 4, 100003);
+    }
+
+    /** A dark step was not right, even if it leads to BEYOND where the gap is. */
+    private static void mendBesideDark() {
+        RodBoard board = addition();
+        board.gap(0, 7);
+        board.gap(3, 0);
+        board.write(1, 0, BEYOND - 83);
+        board.write(2, 0, BEYOND - 3);
+        mendsAre("dark on both sides", board, 100012, 200018);
     }
 
     private static void mendOfOtherKinds() {
@@ -359,5 +518,179 @@ public final class CopiesTest {
         due.is("a later board all the same", board.fill(), 1);
         due.is("gap stays", board.read(1, 0), LOST - 6);
         due.is("told", board.read(3, 0), 1221);
+    }
+
+    private static void mendOfTwoFaults() {
+        RodBoard board = parting();
+        writeBoth(board, 1, 2, 1);
+        board.write(1, 0, 5);
+        mendsAre("b and a of a parting", board);
+        board.write(1, 0, -30);
+        mendsAre("b alone, the other way", board, 101002);
+        board = root(2);
+        writeBoth(board, 1, 1, 3);
+        board.write(1, 0, 5);
+        mendsAre("b and a of a root", board);
+        board.write(1, 0, 0);
+        board.write(0, 6, 1);
+        mendsAre("b of a root and another row", board);
+    }
+
+    private static void fillOfTheLongest() {
+        RodBoard board = with(1111111, 111111, 8);
+        board.times(0, 1, 2);
+        board.copy();
+        for (int i = 1; i < 44; i++) {
+            for (int row = 0; row < 8; row++) board.gap(i, row);
+        }
+        due.is("gaps", board.told(6), 344);
+        due.is("all are filled", board.fill(), 344);
+        due.is("none is left", board.told(6), 0);
+        due.is("the last", board.read(43, 2), 123456654321L);
+    }
+
+    private static void fillAgreesInEachRow() {
+        for (int row = 0; row < 8; row++) {
+            int other = row == 3 ? 4 : 3;
+            RodBoard board = addition();
+            board.gap(1, other);
+            board.write(1, row, board.read(1, row) - 1);
+            due.is("row " + row + " does not agree", board.fill(), 0);
+            due.is("it stays a gap", board.read(1, other), LOST - 6);
+            board.write(1, row, board.read(1, row) + 1);
+            due.is("row " + row + " agrees", board.fill(), 1);
+            board.gap(1, row);
+            due.is("row " + row + " is a gap", board.fill(), 1);
+        }
+    }
+
+    private static void fillNotOfBoard0() {
+        RodBoard board = addition();
+        board.gap(0, 5);
+        board.gap(1, 0);
+        due.is("nor of what hangs on it", board.fill(), 0);
+        board.gap(3, 0);
+        due.is("only behind", board.fill(), 1);
+        due.is("two stay", board.told(6), 2);
+        board.write(0, 5, 0);
+        due.is("till it is written", board.fill(), 1);
+        board.add(0, 6);
+        board.copy();
+        board.gap(0, 0);
+        due.is("there is no board 1", board.fill(), 0);
+    }
+
+    /** All of BOARD 1 gaps, and BOARD 0 as told: whether WALK leads on from it. */
+    private static void fills(String what, boolean leadsOn, RodBoard board, long... ahead) {
+        for (int row = 0; row < ahead.length; row++) board.write(0, row, ahead[row]);
+        for (int row = 0; row < 8; row++) board.gap(1, row);
+        due.is(what, board.fill(), leadsOn ? 8 : 0);
+        due.is(what + ", gaps left", board.told(6), leadsOn ? 0 : 8);
+    }
+
+    private static void becomes(RodBoard board, int row, long v) {
+        due.is("row " + row + " behind the step", board.read(1, row), v);
+    }
+
+    private static RodBoard oneStep(int a, int b) {
+        RodBoard board = with(a, b);
+        board.add(0, 1);
+        board.copy();
+        return board;
+    }
+
+    private static void fillAdding() {
+        RodBoard board = oneStep(1, 700);
+        fills("just below BEYOND", true, board, BEYOND - 701);
+        becomes(board, 0, BEYOND - 1);
+        fills("to BEYOND", false, oneStep(1, 700), BEYOND - 700);
+        fills("above it", false, oneStep(1, 700), BEYOND - 1);
+        board = oneStep(1, -700);
+        fills("just above -BEYOND", true, board, 701 - BEYOND);
+        becomes(board, 0, 1 - BEYOND);
+        fills("to -BEYOND", false, oneStep(1, -700), 700 - BEYOND);
+        fills("below it", false, oneStep(1, -700), 1 - BEYOND);
+    }
+
+    private static RodBoard product(int a, int b) {
+        RodBoard board = with(a, b);
+        board.times(0, 1, 2);
+        board.copy();
+        return board;
+    }
+
+    private static void fillTimes() {
+        RodBoard board = product(3, 4);
+        fills("just below BEYOND", true, board, 3, 4, BEYOND - 13);
+        becomes(board, 2, BEYOND - 1);
+        fills("to BEYOND", false, product(3, 4), 3, 4, BEYOND - 12);
+        board = product(3, -4);
+        fills("just above -BEYOND", true, board, 3, 4, 13 - BEYOND);
+        becomes(board, 2, 1 - BEYOND);
+        fills("to -BEYOND", false, product(3, -4), 3, 4, 12 - BEYOND);
+        board = product(3, 4);
+        fills("a and b do not matter", true, board, BEYOND - 1, BEYOND - 1, 5);
+        becomes(board, 2, 17);
+    }
+
+    /** DIGIT 3 at PLACE 1: c is more by 30, a less by 30 times b. */
+    private static void fillParting() {
+        RodBoard board = parting();
+        fills("c just below BEYOND", true, board, 0, 1, BEYOND - 31);
+        becomes(board, 2, BEYOND - 1);
+        fills("c to BEYOND", false, parting(), 0, 1, BEYOND - 30);
+        board = parting();
+        fills("a just above -BEYOND", true, board, 31 - BEYOND, 1, 0);
+        becomes(board, 0, 1 - BEYOND);
+        fills("a to -BEYOND", false, parting(), 30 - BEYOND, 1, 0);
+        board = parting();
+        fills("a just below BEYOND", true, board, BEYOND - 31, -1, 0);
+        becomes(board, 0, BEYOND - 1);
+        fills("a to BEYOND", false, parting(), BEYOND - 30, -1, 0);
+        board = parting();
+        fills("less by just below BEYOND", true, board, 600000000000L, 33333333333L, 0);
+        becomes(board, 0, 600000000000L - 999999999990L);
+        fills("less by more", false, parting(), 600000000000L, 33333333334L, 0);
+        board = parting();
+        fills("more by just below BEYOND", true, board, -600000000000L, -33333333333L, 0);
+        becomes(board, 0, 999999999990L - 600000000000L);
+        fills("more by more", false, parting(), -600000000000L, -33333333334L, 0);
+        fills("more by far more", false, parting(), -600000000000L, 1 - BEYOND, 0);
+    }
+
+    /** DIGIT 3 at PLACE 0: b is more by 3, a less by the new power and more by the old one. */
+    private static void fillRoots() {
+        RodBoard board = root(2);
+        fills("a just above -BEYOND", true, board, 22 - BEYOND, 2);
+        becomes(board, 0, 1 - BEYOND);
+        fills("a to -BEYOND", false, root(2), 21 - BEYOND, 2);
+        board = root(2);
+        fills("a just below BEYOND", true, board, BEYOND - 22, -5);
+        becomes(board, 0, BEYOND - 1);
+        fills("a to BEYOND", false, root(2), BEYOND - 21, -5);
+        fills("new square just below BEYOND", true, root(2), 0, 999996);
+        fills("new square BEYOND", false, root(2), 0, 999997);
+        fills("old square just below BEYOND", true, root(2), 0, -999999);
+        fills("old square BEYOND", false, root(2), 0, -1000000);
+        fills("squares far beyond", false, root(2), 0, BEYOND - 1);
+        fills("squares far beyond, black", false, root(2), 0, 1 - BEYOND);
+        board = root(3);
+        fills("cubes", true, board, 0, -1);
+        becomes(board, 0, -9);
+        fills("new cube just below BEYOND", true, root(3), 0, 9996);
+        fills("new cube BEYOND", false, root(3), 0, 9997);
+        fills("old cube just above -BEYOND", true, root(3), 0, -9999);
+        fills("old cube -BEYOND", false, root(3), 0, -10000);
+        fills("cubes far beyond", false, root(3), 0, BEYOND - 1);
+        fills("a far below with it", false, root(3), 1 - BEYOND, 9996);
+    }
+
+    private static void fillEmptying() {
+        RodBoard board = with(2, 3, 9);
+        board.times(0, 1, 2);
+        board.copy();
+        fills("whatever it was", true, board, BEYOND - 1, 1 - BEYOND, BEYOND - 1);
+        becomes(board, 2, 0);
+        becomes(board, 1, 1 - BEYOND);
     }
 }

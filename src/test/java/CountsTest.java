@@ -5,12 +5,19 @@ public final class CountsTest {
 
     public static void main(String[] args) {
         count();
+        countEdges();
         drop();
+        dropWhenFull();
         joined();
+        joinedGoesTheWholeWay();
+        joinedOfOne();
         joinedWithClash();
         joinedOutside();
         clash();
+        clashOfTheLast();
         seek();
+        seekLongest();
+        seekAtTheEdges();
         seekAll();
         due.end();
     }
@@ -38,6 +45,18 @@ public final class CountsTest {
         due.is("told", board.told(5), 6);
     }
 
+    private static void countEdges() {
+        RodBoard board = new RodBoard();
+        due.is("by 2, left 0", board.count(2, 0), 1);
+        due.is("by 2, left 1", board.count(2, 1), 2);
+        due.is("by 2, left 2", board.count(2, 2), -2);
+        due.is("by 1000, left 999", board.count(1000, 999), 3);
+        due.is("by 1000, left 1000", board.count(1000, 1000), -2);
+        due.is("by 1000, left 0", board.count(1000, 0), 4);
+        due.is("neither", board.count(1, 1), -2);
+        due.is("told", board.told(5), 4);
+    }
+
     private static void drop() {
         RodBoard board = with(3, 2, 5, 3);
         due.is("two", board.drop(), 2);
@@ -45,6 +64,17 @@ public final class CountsTest {
         due.is("told", board.told(5), 0);
         due.is("anew", board.count(7, 1), 1);
         due.is("joined anew", board.joined(0), 1);
+    }
+
+    private static void dropWhenFull() {
+        RodBoard board = with(2, 1, 3, 1, 5, 1, 7, 1, 11, 1, 13, 0);
+        due.is("a seventh", board.count(17, 1), -4);
+        due.is("without it", board.joined(1), 30030);
+        due.is("six", board.drop(), 6);
+        due.is("told", board.told(5), 0);
+        due.is("no clash", board.clash(), -6);
+        due.is("anew", board.count(17, 1), 1);
+        due.is("joined anew", board.joined(1), 17);
     }
 
     private static void joined() {
@@ -65,6 +95,30 @@ public final class CountsTest {
         board = with(1000, 999, 999, 998, 997, 996, 991, 990, 983, 982, 977, 976);
         due.is("the greatest", board.joined(1), 1000L * 999 * 997 * 991 * 983 * 977);
         due.is("one less", board.joined(0), 1000L * 999 * 997 * 991 * 983 * 977 - 1);
+    }
+
+    /** The least number is found only after as many goes as there may be. */
+    private static void joinedGoesTheWholeWay() {
+        RodBoard board = with(999, 0, 1000, 1);
+        due.is("999 goes", board.joined(0), 999L * 999);
+        due.is("what all go into", board.joined(1), 999000);
+        board = with(999, 998, 1000, 0);
+        due.is("to the last", board.joined(0), 998000);
+        board = with(1000, 0, 999, 998);
+        due.is("the other way", board.joined(0), 998000);
+        board = with(1000, 0, 999, 0, 997, 0, 991, 0, 983, 0, 977, 976);
+        due.is("six", board.joined(0) % 977, 976);
+        due.is("six", board.joined(0) % (1000L * 999 * 997 * 991 * 983), 0);
+    }
+
+    private static void joinedOfOne() {
+        due.is("nothing left", with(2, 0).joined(0), 0);
+        due.is("one left", with(2, 1).joined(0), 1);
+        due.is("all go into", with(2, 1).joined(1), 2);
+        due.is("the most", with(1000, 999).joined(0), 999);
+        due.is("all go into", with(1000, 999).joined(1), 1000);
+        due.is("the same six times", with(6, 5, 6, 5, 6, 5, 6, 5, 6, 5, 6, 5).joined(0), 5);
+        due.is("all go into", with(6, 5, 6, 5, 6, 5, 6, 5, 6, 5, 6, 5).joined(1), 6);
     }
 
     /** Counts that can't be together have neither number. */
@@ -110,6 +164,15 @@ public final class CountsTest {
         due.is("the same count", with(5, 1, 5, 1).clash(), -6);
     }
 
+    private static void clashOfTheLast() {
+        due.is("the sixth", with(2, 1, 3, 1, 5, 1, 7, 1, 11, 1, 22, 2).clash(), 5);
+        due.is("the second, though the sixth does, too", with(2, 1, 2, 0, 5, 1, 7, 1, 11, 1, 22, 2).clash(), 1);
+        due.is("six together", with(2, 1, 3, 1, 5, 1, 7, 1, 11, 1, 22, 1).clash(), -6);
+        RodBoard board = with(2, 1, 2, 0);
+        board.drop();
+        due.is("gone with the counts", board.clash(), -6);
+    }
+
     private static void seek() {
         RodBoard board = new RodBoard();
         due.is("turns", board.seek(65, 83, 0), 7);
@@ -130,11 +193,36 @@ public final class CountsTest {
         due.is("far off", board.seek(Integer.MIN_VALUE, Integer.MIN_VALUE, 0), -2);
     }
 
-    private static void seekAll() {
+    /** Neighbours in the row 1, 2, 3, 5, 8 .. take the most turns. */
+    private static void seekLongest() {
         RodBoard board = new RodBoard();
+        due.is("turns", board.seek(610, 987, 0), 14);
+        due.is("the one", board.seek(610, 987, 1), 610 * 610 % 987 == 1 ? 610 : 987 - 610);
+        due.is("x", board.seek(610, 987, 2), 1);
+    }
+
+    private static void seekAtTheEdges() {
+        RodBoard board = new RodBoard();
+        due.is("least m, turns", board.seek(1, 2, 0), 1);
+        due.is("least m, x", board.seek(1, 2, 2), 1);
+        due.is("a 1, turns", board.seek(1, 1000, 0), 1);
+        due.is("a 1", board.seek(1, 1000, 1), 1);
+        due.is("a is m less 1, turns", board.seek(999, 1000, 0), 2);
+        due.is("a is m less 1", board.seek(999, 1000, 1), 999);
+        due.is("a goes into m, turns", board.seek(500, 1000, 0), 1);
+        due.is("a goes into m: none", board.seek(500, 1000, 1), -6);
+        due.is("a goes into m, x", board.seek(500, 1000, 2), 500);
+    }
+
+    /** No board is asked more than 512 times. */
+    private static void seekAll() {
         int wrong = 0;
-        for (int m = 2; m <= 200; m++) {
-            for (int a = 1; a < m; a++) {
+        for (int m = 2; m <= 1000; m++) {
+            RodBoard board = new RodBoard();
+            int asked = 0;
+            for (int a = 1; a < m; a += m <= 200 ? 1 : 13) {
+                asked += 2;
+                if (asked > 512) due.is("asked", asked, 512);
                 int one = board.seek(a, m, 1);
                 if (board.seek(a, m, 2) == 1 ? one < 1 || one >= m || a * one % m != 1 : one != -6) wrong++;
             }

