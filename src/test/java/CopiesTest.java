@@ -24,6 +24,7 @@ public final class CopiesTest {
         mendOfColours();
         mendKeepsWhatWasRight();
         mendBesideDark();
+        mendBesideNothing();
         mendOfOtherKinds();
         mendOfTwoFaults();
         fill();
@@ -456,6 +457,16 @@ public final class CopiesTest {
         board.write(1, 0, BEYOND - 83);
         board.write(2, 0, BEYOND - 3);
         mendsAre("dark on both sides", board, 100012, 200018);
+    }
+
+    /** Ahead of the first step, and behind the last, there is none that could have been right. */
+    private static void mendBesideNothing() {
+        RodBoard board = oneStep(1, 7);
+        writeBoth(board, 0, 0, 8);
+        writeBoth(board, 1, 0, 0);
+        mendsAre("board 0 is all empty", board, 1, 100007);
+        writeBoth(board, 0, -2, 0);
+        mendsAre("the last board is all empty", board, 7, 100005);
     }
 
     private static void mendOfOtherKinds() {

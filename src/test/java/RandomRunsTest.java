@@ -5,8 +5,10 @@ import java.util.Random;
  * the model must answer alike to each. What a refused call changed would show in the calls behind it.
  */
 public final class RandomRunsTest {
-    private static final int RUNS = 400;
+    private static final int RUNS = 700;
     private static final int CALLS = 512;
+    /** What one turn may call at most: all numbers of 5 columns of 4 unknowns. */
+    private static final int CALLS_OF_A_TURN = 25;
 
     private final Due due = new Due("RandomRunsTest");
     private final Random random;
@@ -14,6 +16,8 @@ public final class RandomRunsTest {
     private final RodBoard board = new RodBoard();
     private final Model model = new Model();
     private final StringBuilder calls = new StringBuilder();
+    private int turns;
+    private int made;
 
     private RandomRunsTest(int run) {
         this.run = run;
@@ -23,13 +27,14 @@ public final class RandomRunsTest {
     public static void main(String[] args) {
         boolean wrong = false;
         for (int run = 1; run <= RUNS && !wrong; run++) wrong = new RandomRunsTest(run).isWrong();
-        System.out.println("RandomRunsTest: " + RUNS + " runs of " + CALLS + " calls" + (wrong ? ", one is wrong" : ""));
+        System.out.println("RandomRunsTest: " + RUNS + " runs of nearly " + CALLS + " calls" + (wrong ? ", one is wrong" : ""));
         if (wrong) System.exit(1);
     }
 
     private boolean isWrong() {
         int theme = run % 7;
-        for (int call = 0; call < CALLS && !due.hasWrong(); call++) {
+        while (made + CALLS_OF_A_TURN <= CALLS && turns < 2 * CALLS && !due.hasWrong()) {
+            turns++;
             callOne(theme == 0 ? random.nextInt(39) : themed(theme));
         }
         if (due.hasWrong()) System.out.println("run " + run + ":" + calls);
@@ -49,6 +54,7 @@ public final class RandomRunsTest {
     }
 
     private void same(String call, long got, long want) {
+        made++;
         calls.append(' ').append(call).append('=').append(want);
         due.is("run " + run + " " + call, got, want);
     }
