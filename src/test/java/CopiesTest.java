@@ -427,6 +427,9 @@ public final class CopiesTest {
         for (int i = 0; i < 4; i++) board.write(i, 4, -50);
         board.write(0, 4, 0);
         mendsAre("an empty cell: not black", board);
+        for (int i = 0; i < 4; i++) board.write(i, 4, -7);
+        board.write(0, 4, -1);
+        mendsAre("the least that is black", board, 4007);
     }
 
     private static void mendKeepsWhatWasRight() {
@@ -667,6 +670,10 @@ public final class CopiesTest {
         becomes(board, 0, 999999999990L - 600000000000L);
         fills("more by more", false, parting(), -600000000000L, -33333333334L, 0);
         fills("more by far more", false, parting(), -600000000000L, 1 - BEYOND, 0);
+        board = parting();
+        fills("nothing less, as b is empty", true, board, 30, 0, 0);
+        becomes(board, 0, 30);
+        becomes(board, 2, 30);
     }
 
     /** DIGIT 3 at PLACE 0: b is more by 3, a less by the new power and more by the old one. */
