@@ -7,6 +7,7 @@ public final class WorkingsTest {
     public static void main(String[] args) {
         add();
         addThroughZero();
+        addOfOne();
         addRowToItself();
         addOfFullRow();
         addRefused();
@@ -15,6 +16,7 @@ public final class WorkingsTest {
         timesOneDigitEach();
         timesAtHighestPlace();
         timesOfColours();
+        timesOfOnes();
         timesRefused();
         timesToBeyondAtLastStep();
         part();
@@ -96,6 +98,17 @@ public final class WorkingsTest {
         board = with(-75, 75);
         due.is("to nothing", board.add(0, 1), 2);
         due.is("empty", board.about(0, 0), 0);
+    }
+
+    private static void addOfOne() {
+        RodBoard board = with(0, -1);
+        due.is("black one", board.add(0, 1), 1);
+        due.are("note", parts(board, 0), 0, 0, 0, -1, 1, -6);
+        due.is("a", board.number(0), -1);
+        board = with(-1, 1);
+        due.is("red one", board.add(0, 1), 1);
+        due.are("note", parts(board, 0), 0, 0, 0, 1, 1, -6);
+        due.is("a", board.number(0), 0);
     }
 
     private static void addRowToItself() {
@@ -232,6 +245,17 @@ public final class WorkingsTest {
         board = with(-12, 0, -1);
         due.is("black times nothing", board.times(0, 1, 2), 1);
         due.are("c", course(board, 2), -1, 0);
+    }
+
+    private static void timesOfOnes() {
+        for (int a = -1; a <= 1; a += 2) {
+            for (int b = -1; b <= 1; b += 2) {
+                RodBoard board = with(a, b);
+                due.is(a + " times " + b, board.times(0, 1, 2), 1);
+                due.are("note", parts(board, 0), 1, 2, 0, a * b, -6, -6);
+                due.is("c", board.number(2), a * b);
+            }
+        }
     }
 
     private static void timesRefused() {
